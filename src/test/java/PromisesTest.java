@@ -18,6 +18,7 @@ public final class PromisesTest {
         promise4Cancel();
         promise4CancelThenCall();
         promise5Delay();
+        promise5DelayOfFullTrips();
         promise5DelayRefused();
         promise6Walk();
         promise6WalkRefused();
@@ -187,6 +188,8 @@ public final class PromisesTest {
         due("4: it runs from its stop", x.arrival(2, 5, 50, 1), 55);
         x.cancel(0);
         due("4: no trip for a call", x.call(6, 60), BAD);
+        due("4: a new trip", x.trip(1, 10), 0);
+        due("4: it has none of the stops that were taken out", x.call(5, 10), 2);
     }
 
     private static void promise5Delay() {
@@ -212,6 +215,24 @@ public final class PromisesTest {
         due("5: the other trip later", x.delay(1, 1, 30), true);
         due("5: a new call is measured by it", x.call(4, 49), BAD);
         due("5: and fits there", x.call(4, 50), 3);
+    }
+
+    private static void promise5DelayOfFullTrips() {
+        TransitRounds x = new TransitRounds();
+        for (int i = 0; i < 10; i++) {
+            x.trip(0, 10 * i);
+            for (int stop = 1; stop < 5; stop++) {
+                x.call(stop, 10 * i + stop);
+            }
+        }
+        for (int i = 9; i >= 0; i--) {
+            due("5: five calls of trip " + i, x.delay(i, 4, 5), true);
+            due("5: no sixth call of trip " + i, x.delay(i, 5, 5), false);
+        }
+        for (int i = 0; i < 10; i++) {
+            due("5: the end of trip " + i, x.arrival(0, 4, 10 * i, 1), 10 * i + 9);
+            due("5: the start of trip " + i, x.leave(0, 3, 10 * i + 3), 10 * i);
+        }
     }
 
     private static void promise5DelayRefused() {
