@@ -8,8 +8,9 @@ import java.util.List;
  * those of a slow model that follows every journey and prefers none.
  */
 public final class ReferenceTest {
-    private static final int RUNS = 400;
-    private static final int CALLS = 300;
+    private static final int RUNS = 240;
+    // As many as the document lets one object answer.
+    private static final int CALLS = 512;
 
     private static int wrong = 0;
     private static long state;
